@@ -36,6 +36,8 @@ public final class SeepingRock {
     /** The answer in place of NUMBER where -1 means "there is none such". */
     private static final int UNKNOWN = -2;
     private static final int SHUT_RANK = -2;
+    private static final long GREATEST = 0x7fffffffffffffffL;
+    private static final long LEAST = 0x8000000000000000L;
 
     private final Rock rock = new Rock();
     private final Core[] cores = new Core[MOST_CORES];
@@ -225,7 +227,7 @@ public final class SeepingRock {
 
     public long told(int c, int i) {
         if (!hasPlace(c) || !cores[c].there || !cores[c].hasNumber(i)) {
-            return Long.MAX_VALUE;
+            return GREATEST;
         }
         return cores[c].whole[i];
     }
@@ -596,7 +598,7 @@ public final class SeepingRock {
 
         void putWild(int i, int what) {
             noNumber[i] = (byte) (what == 0 ? 1 : 0);
-            whole[i] = what == 1 ? Long.MAX_VALUE : what == 2 ? Long.MIN_VALUE : 0;
+            whole[i] = what == 1 ? GREATEST : what == 2 ? LEAST : 0;
         }
 
         void putFrom(int j, Core from, int i, int n) {

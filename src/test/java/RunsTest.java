@@ -24,6 +24,10 @@ public final class RunsTest {
         lakes();
         lakesAtOnce();
         breakthroughs();
+        lowestNumbers();
+        firstThroatAtKinds();
+        cutAtFirst();
+        filledOutlets();
         largest();
         DUE.end();
     }
@@ -97,6 +101,12 @@ public final class RunsTest {
         x.begin();
         DUE.is("wide: not at step 0", x.step(), 0);
         DUE.is("wide: by rank", x.step(), 1);
+        x = rock(WIDE, PORE, PORE, PORE);
+        throats(x, 0, 1, 5, 2, 3, 1);
+        x.inlet(0, true);
+        x.inlet(2, true);
+        x.begin();
+        DUE.is("wide: nor as pore 0", x.step(), 1);
         x = rock(PORE, WIDE, PORE, PORE);
         throats(x, 0, 1, 0, 0, 2, 4, 0, 1, 2, 1, 3, 7);
         x.shut(3, true);
@@ -119,6 +129,11 @@ public final class RunsTest {
         x.inlet(0, false);
         x.begin();
         DUE.is("lip: not at step 0", x.step(), 0);
+        x = rock(LIP, PORE, PORE);
+        throats(x, 0, 1, 0, 0, 2, 5);
+        x.inlet(0, true);
+        x.begin();
+        DUE.is("lip: nor as pore 0", x.step(), 0);
         x = rock(PORE, LIP, PORE);
         throats(x, 0, 1, 0, 0, 2, 4);
         x.inlet(0, true);
@@ -304,6 +319,9 @@ public final class RunsTest {
         DUE.is("25 no others", x.front(2), -1);
         x.run(2);
         DUE.is("25 none at the end", x.front(0), -1);
+        x.undo(3);
+        x.trapping(true);
+        DUE.is("25 none behind a run", x.front(0), -1);
         x = rock(PORE, LIP, PORE, PORE);
         throats(x, 0, 1, 0, 1, 2, 5, 3, 1, 4, 0, 3, 3);
         x.inlet(0, true);
@@ -385,6 +403,81 @@ public final class RunsTest {
         DUE.is("27 it stays the first", x.through(), 0);
     }
 
+    /** PORE 0 and throat 0 are as good as others. */
+    private static void lowestNumbers() {
+        SeepingRock x = rock(OUTLET, PORE, PORE);
+        throats(x, 0, 1, 0, 1, 2, 3);
+        x.inlet(2, true);
+        x.trapping(true);
+        x.begin();
+        DUE.is("26 all come to outlet 0", x.many(4), 0);
+        x.run(2);
+        DUE.is("27 outlet 0", x.through(), 2);
+        x.undo(1);
+        DUE.is("21 pore 0", x.now(0, 0), -1);
+        DUE.is("27 outlet 0 is taken back", x.through(), -1);
+        x.shut(0, true);
+        x.pore(PORE);
+        x.throat(3, 1);
+        x.begin();
+        DUE.is("26 not cut from itself", x.now(0, 2), -1);
+        x = rock(PORE, PORE, OUTLET);
+        throats(x, 0, 1, 0, 1, 2, 3);
+        x.inlet(1, true);
+        x.trapping(true);
+        x.begin();
+        DUE.is("26 pore 0 is cut", x.now(0, 2), 0);
+        DUE.is("26 it is a lake", x.now(0, 3), 0);
+        DUE.is("26 the least", x.lake(0, 2), 0);
+    }
+
+    private static void firstThroatAtKinds() {
+        for (int kind = WIDE; kind <= LIP; kind++) {
+            SeepingRock x = rock(PORE, kind, PORE, PORE, PORE);
+            throats(x, 1, 2, kind == WIDE ? 5 : 7, 1, 3, 6, 0, 1, 0, 0, 4, 1);
+            x.inlet(0, true);
+            x.begin();
+            DUE.is("19 into the kind", x.step(), 2);
+            DUE.is("19 throat 0 at it", x.step(), 0);
+        }
+    }
+
+    private static void cutAtFirst() {
+        SeepingRock x = rock(PORE, PORE, OUTLET, PORE, PORE);
+        throats(x, 0, 1, 4, 1, 2, 5, 0, 3, 1, 3, 4, 0);
+        x.inlet(0, true);
+        x.trapping(true);
+        x.begin();
+        DUE.is("26 cut at first", x.many(4), 2);
+        x.run(2);
+        DUE.is("24 the step stays", x.now(4, 2), 0);
+        lake(x, 0, 0, 2, 3, -1);
+        x.undo(2);
+        DUE.is("21 what step 0 cut stays", x.many(4), 2);
+        lake(x, 0, 0, 2, 3, -1);
+    }
+
+    /** Oil doesn't flee by an outlet that is FILLED. */
+    private static void filledOutlets() {
+        SeepingRock x = rock(PORE, OUTLET, PORE, OUTLET);
+        throats(x, 0, 1, 0, 1, 2, 5, 2, 3, 9);
+        x.inlet(1, true);
+        x.inlet(3, true);
+        x.trapping(true);
+        x.begin();
+        DUE.is("26 by no inlet", x.many(4), 2);
+        DUE.is("26 two lakes", x.many(6), 2);
+        x.inlet(1, false);
+        x.inlet(3, false);
+        x.inlet(0, true);
+        x.shut(2, true);
+        x.begin();
+        DUE.is("26 by the outlet", x.many(4), 0);
+        x.step();
+        lake(x, 0, 1, 1, 2, 0);
+        DUE.is("26 an outlet apart is not cut", x.now(3, 2), -1);
+    }
+
     /** As many PORES, and steps, as there may be. */
     private static void largest() {
         SeepingRock x = chain(120);
@@ -393,6 +486,11 @@ public final class RunsTest {
         DUE.is("23 the last", x.opened(119), 118);
         DUE.is("23 no more", x.opened(120), -1);
         DUE.is("24 the last pore", x.now(119, 0), 119);
+        DUE.is("33 all of them", x.copy(), 119);
+        DUE.is("36 all of them", x.check(), -1);
+        DUE.is("27 no outlet", x.through(), -1);
+        DUE.is("21 the last", x.undo(1), 118);
+        DUE.is("24 the last pore no more", x.now(119, 0), -1);
         x.trapping(true);
         x.begin();
         DUE.is("22 all are cut", x.many(4), 119);

@@ -9,6 +9,7 @@ public final class WaysTest {
         joins();
         trees();
         longest();
+        fullest();
         besideRuns();
         DUE.end();
     }
@@ -135,6 +136,30 @@ public final class WaysTest {
         DUE.is("30 its join", x.join(119, 0), 118);
         DUE.is("31 the last of the tree", x.tree(118), 118);
         DUE.is("31 its end", x.tree(119), -1);
+    }
+
+    /** As many throats as there may be, and all of them OPEN. */
+    private static void fullest() {
+        SeepingRock x = new SeepingRock();
+        for (int p = 0; p < 120; p++) {
+            x.pore(0);
+        }
+        for (int t = 0; t < 300; t++) {
+            x.throat(t < 299 ? t % 100 : 110, (t + 1) % 100);
+        }
+        DUE.is("30 the last of all", x.join(0, 110), 299);
+        DUE.is("30 apart", x.join(0, 111), SeepingRock.APART);
+        DUE.is("31 the ring but one", x.tree(98), 98);
+        DUE.is("31 the last of all", x.tree(99), 299);
+        DUE.is("31 no more", x.tree(100), -1);
+        x.inlet(110, true);
+        DUE.is("28 all of it", x.worst(1), 299);
+        DUE.is("29 the first", x.way(1, 0), 299);
+        DUE.is("28 apart", x.worst(111), SeepingRock.APART);
+        x.begin();
+        DUE.is("25 the last of all", x.front(0), 299);
+        DUE.is("20 the ring", x.run(200), 100);
+        DUE.is("25 none left", x.front(0), -1);
     }
 
     /** The questions ask the rock as it is, and leave a run as it is. */
