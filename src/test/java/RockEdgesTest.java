@@ -220,6 +220,18 @@ public final class RockEdgesTest {
         DOC.is("many(0)", x.many(0), 5);
     }
 
+    static void promise2APoreComesBehindThroats() {
+        DOC.of("Promise 2", "A PORE comes: its number.");
+        SeepingRock x = Worlds.running();
+        DOC.is("pore(4)", x.pore(4), Worlds.PORES);
+        DOC.is("it has no THROATS", x.of(Worlds.PORES, 2), 0);
+        DOC.is("the one ahead keeps its own", x.of(Worlds.PORES - 1, 2), 2);
+        DOC.is("throat from it", x.throat(Worlds.PORES, 0), Worlds.THROATS);
+        DOC.is("it has one", x.of(Worlds.PORES, 2), 1);
+        DOC.is("the first has one more", x.of(0, 2), 3);
+        DOC.is("the one ahead has as many", x.of(Worlds.PORES - 1, 2), 2);
+    }
+
     static void promise2NumberKindIsnt0To4() {
         DOC.of("Promise 2", "NUMBER: kind isn't 0 to 4");
         for (int kind : Sentences.outside(0, 4)) {
