@@ -38,6 +38,20 @@ public final class CoresEdgesTest {
         DOC.is("it isn't now", x.cell(0, 0, 0, 0), MISSING);
     }
 
+    static void terms1RowsOfBytesShortsIntsLongsFloatsOrDoubles() {
+        DOC.of("Terms", "rows of bytes (kind 0), shorts (1), ints (2), longs (3), floats (4) or doubles (5)");
+        long v = 0x0102030485868789L;
+        long[] due = {(byte) v, (short) v, (int) v, v, (long) (float) v, (long) (double) v};
+        SeepingRock x = new SeepingRock();
+        for (int kind = 0; kind < 6; kind++) {
+            DOC.is("core(" + kind + ", " + kind + ", 2)", x.core(kind, kind, 2), 1);
+            DOC.is("cell(" + kind + ", 1, v, 0)", x.cell(kind, 1, v, 0), 1);
+        }
+        for (int kind = 0; kind < 6; kind++) {
+            DOC.is("told(" + kind + ", 1)", x.told(kind, 1), due[kind]);
+        }
+    }
+
     static void promise11InPlaceOfOneThatWas() {
         DOC.of("Promise 11", "A CORE is there (in place of one that was), of that kind, with n numbers, all 0: 1.");
         for (int kind = 0; kind < 6; kind++) {

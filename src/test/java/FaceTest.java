@@ -1,7 +1,12 @@
+import java.io.IOException;
 import java.lang.reflect.Constructor;
 import java.lang.reflect.Field;
 import java.lang.reflect.Method;
 import java.lang.reflect.Modifier;
+import java.nio.file.Files;
+import java.nio.file.Path;
+import java.util.HashSet;
+import java.util.List;
 import java.util.Set;
 import java.util.TreeSet;
 
@@ -18,12 +23,29 @@ public final class FaceTest {
         "int alter(int,int)", "int unclaim()", "int check()"
     };
 
-    public static void main(String[] args) {
+    public static void main(String[] args) throws IOException {
         Due due = new Due("FaceTest");
+        document(due);
         constants(due);
         methods(due);
         members(due);
         due.end();
+    }
+
+    /** The lists of this test are the document's own. */
+    private static void document(Due due) throws IOException {
+        List<String> lines = Files.readAllLines(Path.of("../shared/DOC.md"));
+        Set<String> told = new HashSet<>();
+        int constants = 0;
+        for (String line : lines.subList(lines.indexOf("```java"), lines.indexOf("```"))) {
+            if (line.startsWith("    public static final int ")) {
+                constants++;
+            } else if (line.startsWith("    public ") && !line.equals("    public SeepingRock();")) {
+                told.add(line.trim().replaceAll("^public |;$", "").replaceAll(" \\w+(?=[,)])", "").replace(", ", ","));
+            }
+        }
+        due.isTrue("the document's methods are " + told, told.equals(Set.of(METHODS)));
+        due.is("the document's constants", constants, 8);
     }
 
     private static void constants(Due due) {

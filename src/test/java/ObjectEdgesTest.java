@@ -87,6 +87,35 @@ public final class ObjectEdgesTest {
         DOC.unchanged("all refused ones, one behind the other", x, Worlds.running());
     }
 
+    /** Calls that more than one of their refusals fits, of two unlike answers: the pairs that the document's order decides. */
+    static void termsTheFirstOneNamedIsAnswered() {
+        DOC.of("Terms", "Of several refusals that a call names the first one named is answered.");
+        int number = SeepingRock.NUMBER;
+        int missing = SeepingRock.MISSING;
+        int kind = SeepingRock.KIND;
+        int state = SeepingRock.STATE;
+        DOC.refusedIn(Worlds::allPores, "NUMBER, FULL: pore(5)", number, x -> x.pore(5));
+        DOC.refusedIn(Worlds::allThroats, "NUMBER, FULL: throat(0, 0)", number, x -> x.throat(0, 0));
+        DOC.refused("NUMBER, SIZE: core(6, 0, -1)", number, x -> x.core(6, 0, -1));
+        DOC.refused("NUMBER, SIZE: core(0, 6, -1)", number, x -> x.core(0, 6, -1));
+        DOC.refused("NUMBER, MISSING: cell(5, 0, 1, 31)", number, x -> x.cell(5, 0, 1, 31));
+        DOC.refused("MISSING, NUMBER: cell(5, -1, 1, 0)", missing, x -> x.cell(5, -1, 1, 0));
+        DOC.refused("NUMBER, MISSING: wild(5, 0, 4)", number, x -> x.wild(5, 0, 4));
+        DOC.refused("NUMBER, KIND: wild(2, 0, 4)", number, x -> x.wild(2, 0, 4));
+        DOC.refused("MISSING, NUMBER: wild(5, -1, 0)", missing, x -> x.wild(5, -1, 0));
+        DOC.refused("KIND, NUMBER: wild(2, -1, 0)", kind, x -> x.wild(2, -1, 0));
+        DOC.refused("NUMBER, MISSING: splice(5, 0, 6, 0, 0)", number, x -> x.splice(5, 0, 6, 0, 0));
+        DOC.refused("MISSING, NUMBER: splice(5, 0, 0, -1, 0)", missing, x -> x.splice(5, 0, 0, -1, 0));
+        DOC.refused("KIND, NUMBER: splice(2, 0, 0, 0, -1)", kind, x -> x.splice(2, 0, 0, 0, -1));
+        DOC.refused("MISSING, NUMBER: pour(5, 0, -1, 0)", missing, x -> x.pour(5, 0, -1, 0));
+        DOC.refusedIn(Worlds::still, "STATE, NUMBER: run(201)", state, x -> x.run(201));
+        DOC.refusedIn(Worlds::still, "STATE, NUMBER: undo(-1)", state, x -> x.undo(-1));
+        DOC.refusedIn(Worlds::still, "STATE, NUMBER: now(7, 4)", state, x -> x.now(7, 4));
+        DOC.refusedIn(Worlds::still, "STATE, NUMBER: lake(-1, 4)", state, x -> x.lake(-1, 4));
+        DOC.refusedIn(Worlds::still, "STATE, END: step()", state, x -> x.step());
+        DOC.refusedIn(Worlds::allTold, "NUMBER, FULL: claim(2)", number, x -> x.claim(2));
+    }
+
     static void termsTheConstants() {
         DOC.of("Terms", "NUMBER = -1");
         DOC.is("NUMBER", SeepingRock.NUMBER, -1);

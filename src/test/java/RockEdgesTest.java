@@ -56,6 +56,36 @@ public final class RockEdgesTest {
         DOC.is("of(0, 2)", x.of(0, 2), 300);
     }
 
+    static void terms1NumberedAsTheyCome() {
+        DOC.of("Terms", "PORES are 0 to 119, THROATS 0 to 299, as they come.");
+        SeepingRock x = new SeepingRock();
+        DOC.is("pore(3)", x.pore(3), 0);
+        DOC.is("pore(1)", x.pore(1), 1);
+        DOC.is("a refused one takes no number: pore(9)", x.pore(9), NUMBER);
+        DOC.is("throat(1, 0)", x.throat(1, 0), 0);
+        DOC.is("a refused one takes no number: throat(1, 1)", x.throat(1, 1), NUMBER);
+        DOC.is("pore(2)", x.pore(2), 2);
+        DOC.is("throat(0, 2)", x.throat(0, 2), 1);
+        x.hinder(0, 7);
+        x.shut(1, true);
+        DOC.is("throat(1, 2)", x.throat(1, 2), 2);
+    }
+
+    static void terms1APoreHasAKind() {
+        DOC.of("Terms", "A PORE has a KIND: 0 PORE, 1 WIDE, 2 LIP, 3 DEAD, 4 OUTLET");
+        int[] third = {3, 1, 2, 3, 3};
+        for (int kind = 0; kind < 5; kind++) {
+            SeepingRock x = Worlds.rock(0, kind, 0, 0, 0);
+            Worlds.throats(x, 0, 1, 0, 1, 2, 5, 1, 3, 6, 0, 4, 1);
+            x.inlet(0, true);
+            x.begin();
+            DOC.is("into kind " + kind, x.step(), 0);
+            DOC.is("behind kind " + kind, x.step(), third[kind]);
+            DOC.is("kind " + kind + " as an OUTLET", x.through(), kind == 4 ? 1 : -1);
+            DOC.is("kind " + kind + " leads on", x.run(200), kind == 3 ? 0 : 2);
+        }
+    }
+
     static void terms1AnInletOrNotNotAtFirst() {
         DOC.of("Terms", "is an INLET or not (not at first)");
         SeepingRock x = Worlds.rock(0, 1, 2, 3, 4);

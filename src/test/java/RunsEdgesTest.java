@@ -15,6 +15,39 @@ public final class RunsEdgesTest {
             "Promise 22", "Promise 23", "Promise 24", "Promise 25", "Promise 26", "Promise 27");
     }
 
+    static void terms2ARunBeginsWithBegin() {
+        DOC.of("Terms", "A RUN begins with begin()");
+        SeepingRock x = Worlds.still();
+        x.run(1);
+        x.undo(0);
+        x.copy();
+        x.check();
+        DOC.is("there is none ahead of it", x.step(), STATE);
+        x.begin();
+        DOC.is("there is one behind it", x.step(), 0);
+        x.trapping(true);
+        DOC.is("there is none again", x.step(), STATE);
+        x.begin();
+        DOC.is("it begins anew", x.many(2), 0);
+    }
+
+    static void terms2ThePoreBehindItIsFilledByIt() {
+        DOC.of("Terms", "A STEP opens a CANDIDATE, and the PORE behind it is FILLED by it");
+        SeepingRock x = Worlds.rock(PORE, PORE, PORE);
+        Worlds.throats(x, 1, 0, 3, 1, 2, 4);
+        for (int from = 0; from < 3; from += 2) {
+            x.inlet(from, true);
+            x.begin();
+            DOC.is("step() from " + from, x.step(), from / 2);
+            DOC.is("STEP of the PORE behind it", x.now(1, 0), 1);
+            DOC.is("THROAT of the PORE behind it", x.now(1, 1), from / 2);
+            DOC.is("the one that it comes from stays", x.now(from, 0), 0);
+            DOC.is("no other one", x.now(2 - from, 0), -1);
+            DOC.is("many(3)", x.many(3), 2);
+            x.inlet(from, false);
+        }
+    }
+
     static void terms2OverBehindEachCallThatIsntRefused() {
         DOC.of("Terms", "it is over (there is none) behind each call that isn't refused (also one that changes nothing) of pore(), throat(), hinder(), shut(), pour(), inlet(), trapping()");
         over("pore(0)", 7, x -> x.pore(0));
@@ -329,6 +362,50 @@ public final class RunsEdgesTest {
         DOC.is("by another OUTLET", x.many(4), 0);
         x.step();
         DOC.is("when all OUTLETS are FILLED", x.now(2, 2), 1);
+    }
+
+    static void terms2PoresThatArentFilledAndArentCut() {
+        DOC.of("Terms", "PORES that aren't FILLED and aren't CUT, and from which one doesn't come");
+        SeepingRock x = Worlds.rock(PORE, PORE, PORE, OUTLET);
+        Worlds.throats(x, 0, 1, 0, 0, 2, 2, 1, 3, 1);
+        x.inlet(0, true);
+        x.trapping(true);
+        x.begin();
+        DOC.is("a FILLED one with no way isn't CUT", x.now(0, 2), -1);
+        DOC.is("one behind it is", x.now(2, 2), 0);
+        x.run(200);
+        DOC.is("one that is CUT isn't CUT once more", x.now(2, 2), 0);
+        DOC.is("nor in another LAKE", x.many(6), 1);
+        DOC.is("FILLED ones aren't CUT when no OUTLET is left", x.many(4), 1);
+    }
+
+    static void terms2CutByThatStep() {
+        DOC.of("Terms", "are CUT by that STEP");
+        SeepingRock x = Worlds.rock(PORE, PORE, PORE, PORE, OUTLET);
+        Worlds.throats(x, 0, 1, 0, 1, 2, 1, 2, 4, 2, 1, 3, 8);
+        x.inlet(0, true);
+        x.trapping(true);
+        x.begin();
+        for (int step = 0; step <= 3; step++) {
+            DOC.is("PORE 3, behind STEP " + step, x.now(3, 2), step == 0 ? -1 : 1);
+            DOC.is("PORE 2, behind STEP " + step, x.now(2, 2), -1);
+            x.step();
+        }
+    }
+
+    static void terms2OfThePoresThatAreCutByOneStep() {
+        DOC.of("Terms", "Of the PORES that are CUT by one STEP");
+        SeepingRock x = Worlds.rock(PORE, PORE, PORE, PORE, OUTLET, PORE);
+        Worlds.throats(x, 0, 1, 0, 1, 4, 1, 1, 3, 2, 1, 2, 3, 3, 5, 4);
+        x.inlet(0, true);
+        x.trapping(true);
+        x.begin();
+        lakes(x, -1, -1, -1, -1, -1, -1);
+        x.step();
+        lakes(x, -1, -1, 0, 1, -1, 1);
+        DOC.is("two by one STEP: the first's", x.lake(0, 0), 1);
+        DOC.is("two by one STEP: the second's", x.lake(1, 0), 1);
+        DOC.is("how many in the second", x.lake(1, 1), 2);
     }
 
     static void terms2HangTogetherByOpenThroatsOverEachOther() {

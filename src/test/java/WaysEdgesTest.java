@@ -37,6 +37,39 @@ public final class WaysEdgesTest {
         }
     }
 
+    static void terms3ThePlainRunBeginsWithTheInlets() {
+        DOC.of("Terms", "THE PLAIN RUN begins with the INLETS and opens, each time");
+        SeepingRock x = Worlds.chain(5);
+        DOC.is("from one INLET: worst(4)", x.worst(4), 3);
+        x.inlet(4, true);
+        DOC.is("two INLETS: worst(4)", x.worst(4), -1);
+        DOC.is("the first THROAT goes ahead: way(3, 0)", x.way(3, 0), 0);
+        x.hinder(0, 9);
+        DOC.is("from the other INLET: way(3, 0)", x.way(3, 0), 3);
+        DOC.is("from the other INLET: way(1, 0)", x.way(1, 0), 3);
+        DOC.is("from the other INLET: way(1, 2)", x.way(1, 2), 1);
+        x.inlet(0, false);
+        DOC.is("of one that is none any more: worst(0)", x.worst(0), 3);
+        x.begin();
+        x.run(2);
+        DOC.is("not with what a RUN FILLED: worst(3)", x.worst(3), 2);
+    }
+
+    static void terms3EachPoresThatByWhichItWasFilled() {
+        DOC.of("Terms", "THE WAY of a PORE that it FILLS: the THROATS from an INLET to it, each PORE's that by which it was FILLED.");
+        SeepingRock x = Worlds.rock(0, 0, 0, 0);
+        Worlds.throats(x, 0, 1, 1, 1, 2, 2, 0, 2, 3, 2, 3, 4, 1, 3, 5);
+        x.inlet(0, true);
+        int[] due = {0, 1, 3, -1};
+        for (int i = 0; i < due.length; i++) {
+            DOC.is("the longer one: way(3, " + i + ")", x.way(3, i), due[i]);
+        }
+        x.hinder(2, 0);
+        DOC.is("way(2, 0)", x.way(2, 0), 2);
+        DOC.is("way(2, 1)", x.way(2, 1), -1);
+        DOC.is("way(3, 1)", x.way(3, 1), 3);
+    }
+
     static void terms3OfAllOpenThroatsTheOneOfTheLeastRank() {
         DOC.of("Terms", "of all OPEN THROATS from a FILLED PORE to one that isn't the one of the least RANK, till there is none");
         SeepingRock x = Worlds.rock(0, 0, 0, 0, 0);
